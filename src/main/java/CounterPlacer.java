@@ -40,7 +40,7 @@ public final class CounterPlacer {
 
     public CounterPlacer() {
         routines = new Routine[MOST_ROUTINES];
-        walk = new Walk(routines);
+        walk = new Walk();
         mender = new Mender();
     }
 
@@ -48,7 +48,7 @@ public final class CounterPlacer {
         if (routineCount < 0 || routineCount >= routines.length) {
             return NONE;
         }
-        routines[routineCount] = new Routine(routineCount);
+        routines[routineCount] = Routine.made(routineCount);
         routineCount++;
         return routineCount - 1;
     }
@@ -159,7 +159,7 @@ public final class CounterPlacer {
         if (n < 1 || n > MOST_STEPS || walk.state != UNDER_WAY) {
             return NONE;
         }
-        return walk.stepOn(n, choices);
+        return walk.stepOn(n, choices, routines);
     }
 
     public int run(int what) {
@@ -236,13 +236,18 @@ public final class CounterPlacer {
         private final long[] lost = new long[MOST_BLOCKS];
         private boolean finished;
 
-        Routine(int number) {
+        private Routine(int number, Shape shape, Ways ways, Tree tree) {
             this.number = number;
-            shape = new Shape();
-            ways = new Ways(shape);
-            tree = new Tree(shape);
+            this.shape = shape;
+            this.ways = ways;
+            this.tree = tree;
             log = new Log();
             table = new Table();
+        }
+
+        static Routine made(int number) {
+            Shape shape = new Shape();
+            return new Routine(number, shape, new Ways(shape), new Tree(shape));
         }
 
         /** 0 once it is finished, or the first reason why it isn't good. */
@@ -601,7 +606,7 @@ public final class CounterPlacer {
             }
             lineLength = 0;
             lineUp(shape.blocks, NONE);
-            for (int i = 0; i < lineLength; i++) {
+            for (int i = 0; i < lineLength && i < MOST_NODES; i++) {
                 for (int link = 0; link < shape.links; link++) {
                     int other = within[link] ? otherEnd(link, line[i]) : NONE;
                     if (other != NONE && !lined[other]) {
@@ -938,21 +943,15 @@ public final class CounterPlacer {
 
     /** The run: frames upon one another, each in a block of its routine and on a way. */
     private static final class Walk {
-        private final Routine[] routines;
         private final Routine[] routineOf = new Routine[MOST_FRAMES];
         private final int[] blockOf = new int[MOST_FRAMES];
         private final long[] sumOf = new long[MOST_FRAMES];
         private int frames;
-        private int state;
+        private int state = NO_RUN;
         private int steps;
         private int price;
         private int forks;
         private int choices;
-
-        Walk(Routine[] routines) {
-            this.routines = routines;
-            state = NO_RUN;
-        }
 
         void startIn(Routine routine) {
             dropFrames();
@@ -963,19 +962,19 @@ public final class CounterPlacer {
         }
 
         /** How many steps were done, most at the most. */
-        int stepOn(int most, int choicesOfIt) {
+        int stepOn(int most, int choicesOfIt, Routine[] routines) {
             choices = choicesOfIt;
             forks = 0;
             int done = 0;
             while (done < most && state == UNDER_WAY) {
-                step();
+                step(routines);
                 done++;
             }
             steps += done;
             return done;
         }
 
-        private void step() {
+        private void step(Routine[] routines) {
             Routine top = topRoutine();
             if (top == null) {
                 return;
@@ -989,7 +988,7 @@ public final class CounterPlacer {
                     cross(top, top.shape.outOf(block, choose(top.shape.outs[block])));
                     break;
                 case CALL:
-                    enterCalled(top.shape.calls[block]);
+                    enterCalled(top.shape.calls[block], routines);
                     break;
                 case LEAVE:
                     leave(top);
@@ -1008,7 +1007,7 @@ public final class CounterPlacer {
             return number > 0 ? bits % number : 0;
         }
 
-        private void enterCalled(int number) {
+        private void enterCalled(int number, Routine[] routines) {
             Routine called = number < 0 || number >= routines.length ? null : routines[number];
             if (called == null || !called.finished || frames >= MOST_FRAMES) {
                 dropFrames();

@@ -11,7 +11,7 @@ public final class CounterPlacer {
     private static final int MOST_BLOCKS = 20;
     private static final int MOST_EDGES = 40;
     private static final int MOST_OUT = 4;
-    private static final int MOST_GUESS = 1000000;
+    private static final int MOST_COUNT = 1000000;
     private static final int MOST_FRAMES = 30;
     private static final int MOST_STEPS = 10000;
     private static final int MOST_ROWS = 16;
@@ -207,7 +207,7 @@ public final class CounterPlacer {
     }
 
     private static boolean isCount(int v) {
-        return v >= 0 && v <= MOST_GUESS;
+        return v >= 0 && v <= MOST_COUNT;
     }
 
     private Routine routineAt(int number) {
@@ -681,7 +681,9 @@ public final class CounterPlacer {
             for (int i = lineLength - 1; i > 0; i--) {
                 int node = line[i];
                 int link = up[node];
-                carry(link, shape.from[link] == node ? surplus[node] : -surplus[node]);
+                if (link != NONE) {
+                    carry(link, shape.from[link] == node ? surplus[node] : -surplus[node]);
+                }
             }
         }
 

@@ -1,5 +1,8 @@
 /** Builds routines from short texts. */
 final class Build {
+    static final String DIAMOND = "F G G L";
+    static final String DIAMOND_EDGES = "0>1:10 0>2:5 1>3:10 2>3:5";
+
     private Build() {
     }
 
@@ -27,7 +30,22 @@ final class Build {
         return r;
     }
 
+    /** A block several times over, and others behind it. */
+    static String many(int times, String block, String behind) {
+        return (block + " ").repeat(times) + behind;
+    }
+
+    /** A routine of 18 ways: number i forks by i / 6, then i / 2 % 3, then i % 2 to the Leave or the Stop. */
+    static int eighteenWays(CounterPlacer x) {
+        return finished(x, "F F F L S", "0>1:1 0>1:1 0>1:1 1>2:1 1>2:1 1>2:1 2>3:1 2>4:1");
+    }
+
+    static void goWay(CounterPlacer x, int routine, int i) {
+        x.begin(routine);
+        x.go(9, i / 6 | i / 2 % 3 << 2 | i % 2 << 4);
+    }
+
     private static String[] words(String text) {
-        return text.isEmpty() ? new String[0] : text.split(" +");
+        return text.isBlank() ? new String[0] : text.trim().split(" +");
     }
 }

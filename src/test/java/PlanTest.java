@@ -1,260 +1,144 @@
 import java.util.Random;
 
-/** Promises 7 to 12: plan, look, ofEdge, ofBlock, solve, ring. */
+/** Promise 7, with Terms 2: plan. */
 public final class PlanTest {
-    private static final int MIN = Integer.MIN_VALUE;
-    private static final int MAX = Integer.MAX_VALUE;
-    private static final String DIAMOND = "F G G L";
-    private static final String DIAMOND_EDGES = "0>1:10 0>2:5 1>3:10 2>3:5";
-
     public static void main(String[] args) {
-        planning();
-        planningAnew();
-        looking();
-        edgesLookedAt();
-        blocksLookedAt();
-        stands();
-        solving();
+        endInTheTree();
+        orderOfTheTree();
         rings();
-        leastGuesses();
+        fewest();
+        byGuessesOfNow();
+        emptied();
+        refused();
         Check.end("PlanTest");
     }
 
-    private static void planning() {
+    private static void countersAt(String blocks, String edges, long... due) {
         CounterPlacer x = new CounterPlacer();
-        Check.due("plan of no routine", x.plan(0), -1);
-        int open = Build.open(x, DIAMOND, DIAMOND_EDGES);
-        Check.due("plan of one not finished", x.plan(open), -1);
-        x.finish(open);
-        Check.due("plan", x.plan(open), 2);
-        for (int r : new int[] {-1, 1, 8, MIN, MAX}) {
-            Check.due("plan of no routine", x.plan(r), -1);
+        int r = Build.finished(x, blocks, edges);
+        Check.edgesAre(x, r, 4, due);
+        long counters = 0;
+        for (long has : due) {
+            counters += has;
         }
-        int caller = Build.finished(x, "C0 L", "0>1:1");
-        x.begin(caller);
-        Check.due("plan of one without a frame", x.plan(open), 2);
-        Check.due("plan of one with a frame", x.plan(caller), -1);
-        x.go(1, 0);
-        Check.due("plan of one above", x.plan(open), -1);
-        Check.due("plan of one below", x.plan(caller), -1);
-        x.go(99, 0);
-        Check.due("plan when the run is ended", x.plan(caller), 1);
-        Check.due("a routine of one block", x.plan(Build.finished(x, "L", "")), 0);
-        Check.due("ties: the lesser number first",
-                Check.ofEdge(x, Build.finished(x, "F G L", "0>1:3 0>2:9 1>2:3"), 2, 4), 1);
+        Check.due("plan of " + blocks + " / " + edges, x.plan(r), counters);
+        Check.edgesAre(x, r, 4, due);
     }
 
-    private static void planningAnew() {
-        CounterPlacer x = new CounterPlacer();
-        int r = Build.finished(x, DIAMOND, DIAMOND_EDGES);
-        int many = Build.finished(x, "F F F F F L", "0>1:1 0>1:1 1>2:1 1>2:1 2>3:1 2>3:1 3>4:1 3>4:1 4>5:1 4>5:1");
-        x.begin(r);
-        x.go(2, 0);
-        for (int i = 0; i < 32; i++) {
-            x.begin(many);
-            x.go(6, (i & 1) | (i & 2) << 1 | (i & 4) << 2 | (i & 8) << 3 | (i & 16) << 4);
-        }
-        Check.due("entries", Check.look(x, many, 6), 32);
-        Check.due("rows", Check.look(x, many, 8), 16);
-        Check.due("fell out", Check.look(x, many, 7), 16);
-        Check.due("stopped", Check.look(x, r, 9), 1);
-        x.guess(r, 3, 20);
-        Check.due("plan", x.plan(r), 2);
-        Check.due("plan", x.plan(many), Check.look(x, many, 3));
-        for (int what = 6; what < 10; what++) {
-            Check.due("look " + what + " of the one", Check.look(x, r, what), 0);
-            Check.due("look " + what + " of the other", Check.look(x, many, what), 0);
-        }
-        for (int e = 0; e < 4; e++) {
-            Check.due("true count", Check.ofEdge(x, r, e, 6), 0);
-            Check.due("counter", Check.ofEdge(x, r, e, 7), 0);
-            Check.due("solved", x.solve(r, e), 0);
-            Check.due("told", x.told(r, e), 0);
-            Check.due("has a counter", Check.ofEdge(x, r, e, 4), e == 1 || e == 2 ? 1 : 0);
-        }
-        Check.due("stopped", Check.ofBlock(x, r, 1, 7), 0);
-        Check.due("table", x.table(many, 0, 0), -1);
-        Check.due("light moved", Check.ofEdge(x, r, 3, 9), 0);
-        Check.due("light moved", Check.ofEdge(x, r, 1, 9), 1);
-        Check.due("P moved", Check.ofBlock(x, r, 2, 6), 0);
+    private static void endInTheTree() {
+        Check.sentence(7, "one EDGE from each Leave to END, one from END to BLOCK 0: these are in the TREE", () -> {
+            countersAt("G L", "0>1:1000000", 1);
+            countersAt("F L L", "0>1:1000000 0>2:1000000", 1, 1);
+            countersAt("F G L L", "0>1:9 0>2:1000000 1>3:8", 0, 1, 1);
+            // the last block is a Leave as well as the second one
+            countersAt("F L G L", "0>1:9 0>2:9 2>3:9", 1, 0, 1);
+        });
+        Check.sentence(7, "a Stop has no EDGE to END", () -> {
+            countersAt("G S", "0>1:0", 0);
+            countersAt("F S L", "0>1:3 0>2:3", 0, 1);
+            countersAt("F S S", "0>1:3 0>2:3", 0, 0);
+        });
+        Check.sentence(7, "how many COUNTERS: none of a ROUTINE without EDGES", () -> {
+            countersAt("L", "");
+            countersAt("S", "");
+        });
     }
 
-    private static void looking() {
-        CounterPlacer x = new CounterPlacer();
-        int r = Build.open(x, DIAMOND, DIAMOND_EDGES);
-        long[] before = {4, 4, 0, 0, 0, 0, 0, 0, 0, 0};
-        for (int what = 0; what < 10; what++) {
-            Check.due("look " + what + " not finished", Check.look(x, r, what), before[what]);
-        }
-        x.finish(r);
-        x.begin(r);
-        x.go(9, 0);
-        x.begin(r);
-        x.go(9, 1);
-        x.begin(r);
-        x.begin(r);
-        long[] after = {4, 4, 1, 2, 15, 2, 4, 0, 2, 1};
-        for (int what = 0; what < 10; what++) {
-            Check.due("look " + what, Check.look(x, r, what), after[what]);
-        }
-        for (int what : new int[] {-1, 10, MIN, MAX}) {
-            Check.due("no such what", Check.look(x, r, what), Check.NO_ELEMENT);
-            Check.due("no such routine, and what", Check.look(x, 1, what), Check.INDEX);
-        }
-        for (int none : new int[] {-1, 1, 8, MIN, MAX}) {
-            Check.due("no such routine", Check.look(x, none, 0), Check.INDEX);
-        }
-    }
-
-    private static void edgesLookedAt() {
-        CounterPlacer x = new CounterPlacer();
-        int r = Build.open(x, DIAMOND, DIAMOND_EDGES);
-        long[] before = {2, 3, 5, 0, 0, -1, 0, 0, 0, 0};
-        for (int what = 0; what < 10; what++) {
-            Check.due("ofEdge " + what + " not finished", Check.ofEdge(x, r, 3, what), before[what]);
-        }
-        x.finish(r);
-        x.begin(r);
-        x.go(9, 1);
-        x.begin(r);
-        x.go(2, 1);
-        long[] three = {2, 3, 5, 0, 1, 1, 2, 2, 0, 1};
-        long[] one = {0, 2, 5, 0, 0, -1, 2, 0, 1, 0};
-        for (int what = 0; what < 10; what++) {
-            Check.due("ofEdge 3 " + what, Check.ofEdge(x, r, 3, what), three[what]);
-            Check.due("ofEdge 1 " + what, Check.ofEdge(x, r, 1, what), one[what]);
-        }
-        for (int what : new int[] {-1, 10, MIN, MAX}) {
-            Check.due("no such what", Check.ofEdge(x, r, 0, what), Check.NO_ELEMENT);
-            Check.due("no such edge, and what", Check.ofEdge(x, r, 4, what), Check.INDEX);
-        }
-        for (int none : new int[] {-1, 4, 40, 61, MIN, MAX}) {
-            Check.due("no such edge", Check.ofEdge(x, r, none, 0), Check.INDEX);
-            Check.due("no such routine", Check.ofEdge(x, none, 0, 0), Check.INDEX);
-        }
-    }
-
-    private static void blocksLookedAt() {
-        CounterPlacer x = new CounterPlacer();
-        int r = Build.open(x, "G F C0 L", "0>1:1 1>2:9 1>3:1 2>1:9*");
-        long[] before = {1, -1, 2, 2, 0, -1, 0, 0, 0};
-        for (int what = 0; what < 9; what++) {
-            Check.due("ofBlock " + what + " not finished", Check.ofBlock(x, r, 1, what), before[what]);
-        }
-        x.finish(r);
-        x.begin(r);
-        x.go(1, 0);
-        x.begin(r);
-        x.go(5, 0);
-        // the tree 0-1-2, 1-3: block 3 stands 1 behind block 1
-        long[] one = {1, -1, 2, 2, 2, 2, 0, 1, 0};
-        // it calls itself, so two frames stand in block 2
-        long[] two = {2, 0, 1, 1, 1, -1, 0, 0, 2};
-        long[] three = {3, -1, 0, 1, 1, -1, 1, 0, 0};
-        for (int what = 0; what < 9; what++) {
-            Check.due("ofBlock 1 " + what, Check.ofBlock(x, r, 1, what), one[what]);
-            Check.due("ofBlock 2 " + what, Check.ofBlock(x, r, 2, what), two[what]);
-            Check.due("ofBlock 3 " + what, Check.ofBlock(x, r, 3, what), three[what]);
-        }
-        for (int what : new int[] {-1, 9, MIN, MAX}) {
-            Check.due("no such what", Check.ofBlock(x, r, 0, what), Check.NO_ELEMENT);
-            Check.due("no such block, and what", Check.ofBlock(x, r, 4, what), Check.INDEX);
-        }
-        for (int none : new int[] {-1, 4, 20, MIN, MAX}) {
-            Check.due("no such block", Check.ofBlock(x, r, none, 0), Check.INDEX);
-            Check.due("no such routine", Check.ofBlock(x, none, 0, 0), Check.INDEX);
-        }
-    }
-
-    private static void stands() {
-        CounterPlacer x = new CounterPlacer();
-        // a fork back to block 0, which END enters, too: a block of its own
-        int r = Build.finished(x, "F L", "0>0:0* 0>1:5");
-        Check.due("into block 0", Check.ofEdge(x, r, 0, 5), 0);
-        Check.due("into a block of one edge", Check.ofEdge(x, r, 1, 5), 2);
-        r = Build.finished(x, "G L", "0>1:5");
-        Check.due("neither has others", Check.ofEdge(x, r, 0, 5), 1);
-        r = Build.finished(x, "F L", "0>1:5 0>1:5");
-        Check.due("both have others", Check.ofEdge(x, r, 0, 5), 0);
-        Check.due("both have others", Check.ofEdge(x, r, 1, 5), 0);
-        r = Build.finished(x, "F G L", "0>1:0 0>2:5 1>0:0*");
-        Check.due("in the tree", Check.ofEdge(x, r, 0, 5), -1);
-        Check.due("at the end of from", Check.ofEdge(x, r, 2, 5), 1);
-    }
-
-    private static void solving() {
-        CounterPlacer x = new CounterPlacer();
-        Check.due("solve of no routine", x.solve(0, 0), -1);
-        int r = Build.open(x, "F G C1 L S", "0>1:4 0>2:7 0>4:2 1>0:4* 2>3:7");
-        Check.due("solve of one not finished", x.solve(r, 0), -1);
-        x.finish(r);
-        int called = Build.finished(x, "F L S", "0>1:3 0>2:1");
-        for (int e : new int[] {-1, 5, 40, MIN, MAX}) {
-            Check.due("solve of no edge", x.solve(r, e), -1);
-        }
-        Random random = new Random(5);
-        for (int i = 0; i < 60; i++) {
-            if (i % 3 == 0) {
-                x.begin(random.nextInt(2));
+    private static void orderOfTheTree() {
+        Check.sentence(7, "in order of their GUESSES, the greatest first", () -> {
+            countersAt("F G L", "0>1:4 0>2:6 1>2:5", 1, 1, 0);
+            countersAt("F G L", "0>1:5 0>2:6 1>2:4", 0, 1, 1);
+            countersAt("F G L", "0>1:999999 0>2:0 1>2:1000000", 1, 1, 0);
+        });
+        Check.sentence(7, "of several alike the lesser number", () -> {
+            countersAt("F G L", "0>1:3 0>2:9 1>2:3", 0, 1, 1);
+            countersAt("F G L", "1>2:3 0>1:3 0>2:9", 0, 1, 1);
+            countersAt("F G L", "0>1:0 0>2:0 1>2:0", 0, 1, 1);
+            countersAt("F L G", "0>2:1 0>2:1 0>2:1 0>2:1 2>1:1", 0, 1, 1, 1, 1);
+            countersAt("F L G", "0>2:1 0>2:1 0>2:2 0>2:2 2>1:2", 1, 1, 0, 1, 1);
+        });
+        Check.sentence(7, "40 EDGES in order of their GUESSES", () -> {
+            CounterPlacer x = new CounterPlacer();
+            int r = Build.open(x, Build.many(10, "F", "L"), "");
+            for (int e = 0; e < 40; e++) {
+                // of each four the third is the greatest; the last four are all alike
+                x.edge(r, e / 4, e / 4 + 1, e >= 36 ? 1 : e % 4 == 2 ? 500 + e : e, false);
             }
-            x.go(1 + random.nextInt(9), random.nextInt());
-            for (int e = 0; e < 5; e++) {
-                Check.due("solved", x.solve(r, e), Check.ofEdge(x, r, e, 6));
+            x.finish(r);
+            for (int e = 0; e < 40; e++) {
+                boolean inTree = e % 4 == 2 && e < 36;
+                Check.due("edge " + e, Check.ofEdge(x, r, e, 4), inTree ? 0 : 1);
             }
-            Check.due("solved", x.solve(called, 0), Check.ofEdge(x, called, 0, 6));
-            Check.due("solved", x.solve(called, 1), Check.ofEdge(x, called, 1, 6));
-        }
-        Check.due("something ran", x.solve(r, 1) > 0, true);
+        });
     }
 
     private static void rings() {
-        CounterPlacer x = new CounterPlacer();
-        Check.due("ring of no routine", x.ring(0, 0, 0), -1);
-        int r = Build.open(x, "F F G L", "0>1:9 1>2:9 1>3:1 0>2:2 2>3:9 0>0:3*");
-        Check.due("ring of one not finished", x.ring(r, 2, 0), -1);
-        x.finish(r);
-        // the tree is END's edges, 0 (0>1) and 1 (1>2)
-        int[][] due = {{2, 1, 0, 1, 0, 0, 0}, {3, 2, 2, 0, 1, 0, 0}, {4, 1, 1, 0, 0, 1, 0}, {5, 0, 0, 0, 0, 0, 1}};
-        for (int[] row : due) {
-            for (int e = 0; e < 6; e++) {
-                Check.due("ring of " + row[0] + " at " + e, x.ring(r, row[0], e), row[e + 1]);
-            }
-        }
-        Check.due("no counter", x.ring(r, 0, 0), -1);
-        for (int none : new int[] {-1, 6, 40, MIN, MAX}) {
-            Check.due("no such counter", x.ring(r, none, 0), -1);
-            Check.due("no such edge", x.ring(r, 2, none), -1);
-            Check.due("no such routine", x.ring(none, 2, 0), -1);
-        }
+        Check.sentence(7, "each if it closes no ring with those in the TREE", () -> {
+            countersAt("F G G L", "0>1:9 0>2:1 1>2:8 2>3:7", 0, 1, 0, 1);
+            countersAt("F G L", "0>1:5 0>1:5 1>2:1", 0, 1, 1);
+        });
+        Check.sentence(7, "(whichever way EDGES are gone)",
+                () -> countersAt("F G G L", "0>1:9 0>2:8 1>3:1 2>1:7", 0, 0, 1, 1));
+        Check.sentence(7, "an EDGE from a BLOCK to the same is a ring by itself", () -> {
+            countersAt("F L", "0>0:1000000* 0>1:0", 1, 1);
+            countersAt("F F S", "0>0:1000000* 0>1:0 1>1:1000000* 1>2:0", 1, 0, 1, 0);
+        });
+        Check.sentence(7, "BACK EDGES may be in the TREE", () -> {
+            countersAt("F G L", "0>1:1 0>2:1 1>0:9*", 1, 1, 0);
+            countersAt("G L", "0>1:1*", 1);
+        });
     }
 
-    /** No other choice of as many counters, from which all follows, has lesser guesses. */
-    private static void leastGuesses() {
-        Random random = new Random(11);
-        for (int i = 0; i < 200; i++) {
-            CounterPlacer x = new CounterPlacer();
-            int r = Build.open(x, "F F F L L", "");
-            for (int b = 0; b < 3; b++) {
-                for (int k = 0; k < 3; k++) {
-                    int to = k == 0 ? b + 1 : random.nextInt(5);
-                    x.edge(r, b, to, random.nextInt(7), to <= b);
-                }
+    private static void fewest() {
+        Check.sentence(7, "the fewest EDGES", () -> {
+            Random random = new Random(4);
+            for (int i = 0; i < 200; i++) {
+                CounterPlacer x = new CounterPlacer();
+                int r = randomRoutine(x, random);
+                // END's three edges and those in the tree join six nodes
+                long due = Check.look(x, r, 1) - (5 - 3);
+                Check.due("plan", x.plan(r), due);
+                Check.due("counters", Check.look(x, r, 3), due);
             }
-            if (x.finish(r) == 0) {
+        });
+        Check.sentence(7, "those of the least GUESSES", () -> {
+            Random random = new Random(11);
+            for (int i = 0; i < 200; i++) {
+                CounterPlacer x = new CounterPlacer();
+                int r = randomRoutine(x, random);
                 Check.due("guesses of counters", Check.look(x, r, 4), leastOf(x, r));
             }
-        }
+        });
     }
 
+    /** Three Forks and two Leaves. */
+    private static int randomRoutine(CounterPlacer x, Random random) {
+        int r = Build.open(x, "F F F L L", "2>4:3");
+        for (int b = 0; b < 3; b++) {
+            for (int k = 0; k < 3; k++) {
+                int to = k == 0 ? b + 1 : random.nextInt(5);
+                x.edge(r, b, to, random.nextInt(7), to <= b);
+            }
+        }
+        Check.due("finish", x.finish(r), 0);
+        return r;
+    }
+
+    /** By trying all choices of as many edges. */
     private static long leastOf(CounterPlacer x, int r) {
-        int edges = (int) x.look(r, 1);
         int counters = (int) x.look(r, 3);
+        int[][] edges = new int[(int) x.look(r, 1)][3];
+        for (int e = 0; e < edges.length; e++) {
+            for (int what = 0; what < 3; what++) {
+                edges[e][what] = (int) x.ofEdge(r, e, what);
+            }
+        }
         long least = Long.MAX_VALUE;
-        for (int set = 0; set < 1 << edges; set++) {
-            if (Integer.bitCount(set) == counters && restHasNoRing(x, r, set)) {
+        for (int set = 0; set < 1 << edges.length; set++) {
+            if (Integer.bitCount(set) == counters && restHasNoRing(edges, set)) {
                 long sum = 0;
-                for (int e = 0; e < edges; e++) {
-                    sum += (set >> e & 1) != 0 ? x.ofEdge(r, e, 2) : 0;
+                for (int e = 0; e < edges.length; e++) {
+                    sum += (set >> e & 1) != 0 ? edges[e][2] : 0;
                 }
                 least = Math.min(least, sum);
             }
@@ -262,12 +146,13 @@ public final class PlanTest {
         return least;
     }
 
-    private static boolean restHasNoRing(CounterPlacer x, int r, int counters) {
+    private static boolean restHasNoRing(int[][] edges, int counters) {
+        // END joins block 0 and the Leaves
         int[] part = {0, 1, 2, 0, 0};
-        for (int e = 0; e < x.look(r, 1); e++) {
+        for (int e = 0; e < edges.length; e++) {
             if ((counters >> e & 1) == 0) {
-                int a = part[(int) x.ofEdge(r, e, 0)];
-                int b = part[(int) x.ofEdge(r, e, 1)];
+                int a = part[edges[e][0]];
+                int b = part[edges[e][1]];
                 if (a == b) {
                     return false;
                 }
@@ -277,5 +162,160 @@ public final class PlanTest {
             }
         }
         return true;
+    }
+
+    private static void byGuessesOfNow() {
+        Check.sentence(7, "its PLAN is made by the GUESSES of now", () -> {
+            CounterPlacer x = new CounterPlacer();
+            int r = Build.finished(x, Build.DIAMOND, Build.DIAMOND_EDGES);
+            Check.edgesAre(x, r, 4, 0, 0, 1, 1);
+            x.guess(r, 3, 20);
+            Check.due("plan", x.plan(r), 2);
+            Check.edgesAre(x, r, 4, 0, 1, 1, 0);
+            x.guess(r, 0, 0);
+            Check.due("plan", x.plan(r), 2);
+            Check.edgesAre(x, r, 4, 1, 1, 0, 0);
+        });
+        Check.sentence(7, "its LIGHTS are made by the GUESSES of now", () -> {
+            CounterPlacer x = new CounterPlacer();
+            int r = Build.finished(x, Build.DIAMOND, Build.DIAMOND_EDGES);
+            Check.edgesAre(x, r, 9, 0, 0, 0, 1);
+            Check.blocksAre(x, r, 6, 0, 0, 1, 0);
+            x.guess(r, 3, 20);
+            x.plan(r);
+            Check.edgesAre(x, r, 9, 0, 1, 0, 0);
+            Check.blocksAre(x, r, 6, 0, 0, 0, 0);
+        });
+        Check.sentence(7, "an EDGE's COUNTER counts if it has one by the PLAN of then", () -> {
+            CounterPlacer x = new CounterPlacer();
+            int r = Build.finished(x, Build.DIAMOND, Build.DIAMOND_EDGES);
+            x.guess(r, 3, 20);
+            x.plan(r);
+            x.begin(r);
+            x.go(9, 1);
+            Check.edgesAre(x, r, 6, 0, 1, 0, 1);
+            Check.edgesAre(x, r, 7, 0, 1, 0, 0);
+            for (int e = 0; e < 4; e++) {
+                Check.due("solve", x.solve(r, e), e % 2);
+            }
+        });
+    }
+
+    private static CounterPlacer afterEighteenWays() {
+        CounterPlacer x = new CounterPlacer();
+        int r = Build.eighteenWays(x);
+        for (int i = 0; i < 18; i++) {
+            Build.goWay(x, r, i);
+        }
+        return x;
+    }
+
+    private static void emptied() {
+        Check.sentence(7, "TRUE counts are 0", () -> {
+            CounterPlacer x = afterEighteenWays();
+            Check.edgesAre(x, 0, 6, 6, 6, 6, 6, 6, 6, 9, 9);
+            Check.due("plan", x.plan(0), 5);
+            Check.edgesAre(x, 0, 6, 0, 0, 0, 0, 0, 0, 0, 0);
+        });
+        Check.sentence(7, "COUNTERS are 0", () -> {
+            CounterPlacer x = afterEighteenWays();
+            Check.edgesAre(x, 0, 7, 0, 6, 6, 0, 6, 6, 9, 0);
+            x.plan(0);
+            Check.edgesAre(x, 0, 7, 0, 0, 0, 0, 0, 0, 0, 0);
+            Check.due("solve", x.solve(0, 0), 0);
+        });
+        Check.sentence(7, "ENTRIES are 0", () -> {
+            CounterPlacer x = afterEighteenWays();
+            Check.due("entries", Check.look(x, 0, 6), 18);
+            x.plan(0);
+            Check.due("entries", Check.look(x, 0, 6), 0);
+        });
+        Check.sentence(7, "STOPPED are 0", () -> {
+            CounterPlacer x = afterEighteenWays();
+            Check.blocksAre(x, 0, 7, 0, 0, 0, 0, 9);
+            Check.due("in all", Check.look(x, 0, 9), 9);
+            x.plan(0);
+            Check.blocksAre(x, 0, 7, 0, 0, 0, 0, 0);
+            Check.due("in all", Check.look(x, 0, 9), 0);
+        });
+        Check.sentence(7, "TABLE is empty", () -> {
+            CounterPlacer x = afterEighteenWays();
+            Check.due("rows", Check.look(x, 0, 8), 16);
+            Check.due("fell out", Check.look(x, 0, 7), 2);
+            x.plan(0);
+            Check.due("rows", Check.look(x, 0, 8), 0);
+            Check.due("fell out", Check.look(x, 0, 7), 0);
+            Check.due("row 0", x.table(0, 0, 0), -1);
+            Check.due("told", x.told(0, 0), 0);
+            Build.goWay(x, 0, 17);
+            Check.due("a way that had fallen out", x.table(0, 0, 0), 17);
+            Check.due("how often", x.table(0, 0, 1), 1);
+        });
+        Check.sentence(7, "of a ROUTINE: others keep what they have", () -> {
+            CounterPlacer x = afterEighteenWays();
+            x.plan(Build.finished(x, "L", ""));
+            Check.due("entries", Check.look(x, 0, 6), 18);
+            Check.due("rows", Check.look(x, 0, 8), 16);
+            Check.runIs(x, 3, 0, 4, -1, -1, 2);
+        });
+    }
+
+    private static void refused() {
+        Check.sentence(7, "NONE: no such ROUTINE", () -> {
+            CounterPlacer x = new CounterPlacer();
+            Build.finished(x, "L", "");
+            for (int none : Check.outside(1)) {
+                Check.due("plan(" + none + ")", x.plan(none), -1);
+            }
+        });
+        Check.sentence(7, "NONE: it isn't FINISHED", () -> {
+            CounterPlacer x = new CounterPlacer();
+            int r = Build.open(x, "G L", "0>1:1");
+            Check.due("plan", x.plan(r), -1);
+            Check.due("finish of one that isn't good", x.finish(Build.open(x, "G", "")), 2);
+            Check.due("plan", x.plan(1), -1);
+        });
+        Check.sentence(7, "NONE: a run has a FRAME of it", PlanTest::framesRefuse);
+        Check.sentence(7, "a run that is ENDED has none", () -> {
+            for (String end : new String[] {"L", "S", "C7 L"}) {
+                CounterPlacer x = new CounterPlacer();
+                int r = Build.finished(x, end, end.length() > 1 ? "0>1:1" : "");
+                x.begin(r);
+                x.go(1, 0);
+                Check.due("plan", x.plan(r), end.length() > 1 ? 1 : 0);
+                Check.due("entries", Check.look(x, r, 6), 0);
+            }
+        });
+        Check.sentence(7, "a run that was replaced has none", () -> {
+            CounterPlacer x = new CounterPlacer();
+            int first = Build.finished(x, "G L", "0>1:1");
+            int second = Build.finished(x, "G L", "0>1:1");
+            x.begin(first);
+            x.begin(second);
+            Check.due("plan of the first", x.plan(first), 1);
+            Check.due("plan of the second", x.plan(second), -1);
+        });
+    }
+
+    private static void framesRefuse() {
+        CounterPlacer x = new CounterPlacer();
+        int called = Build.finished(x, "G L", "0>1:1");
+        int caller = Build.finished(x, "G C0 L", "0>1:5 1>2:6");
+        x.guess(caller, 0, 7);
+        x.begin(caller);
+        Check.due("plan of the one that began", x.plan(caller), -1);
+        x.go(1, 0);
+        Check.due("plan of one that has no frame", x.plan(called), 1);
+        x.go(1, 0);
+        Check.due("plan of the top frame's", x.plan(called), -1);
+        Check.due("plan of the one below", x.plan(caller), -1);
+        Check.due("it keeps its counts", Check.look(x, caller, 6), 1);
+        Check.edgesAre(x, caller, 4, 1, 0);
+        x.go(2, 0);
+        Check.due("plan of the called, gone by now", x.plan(called), 1);
+        Check.due("plan of the caller", x.plan(caller), -1);
+        x.go(1, 0);
+        Check.due("plan of the caller when it is gone, too", x.plan(caller), 1);
+        Check.edgesAre(x, caller, 4, 0, 1);
     }
 }

@@ -1162,9 +1162,12 @@ public final class CounterPlacer {
                 nearer = false;
                 for (int link = 0; link < shape.links; link++) {
                     int blur = link < shape.edges ? blurred[link] : NONE;
-                    nearer |= comeNearer(shape.from[link], shape.to[link], link, costOfMore(link, blur));
-                    if (count[link] > 0) {
-                        nearer |= comeNearer(shape.to[link], shape.from[link], link, costOfLess(link, blur));
+                    if (comeNearer(shape.from[link], shape.to[link], link, costOfMore(link, blur))) {
+                        nearer = true;
+                    }
+                    if (count[link] > 0
+                            && comeNearer(shape.to[link], shape.from[link], link, costOfLess(link, blur))) {
+                        nearer = true;
                     }
                 }
             }

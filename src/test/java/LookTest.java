@@ -212,6 +212,8 @@ public final class LookTest {
             CounterPlacer x = new CounterPlacer();
             Check.edgesAre(x, Build.finished(x, "F L", "0>0:0* 0>1:5"), 5, 0, 2);
             Check.edgesAre(x, Build.finished(x, "G F L", "0>1:9 1>0:0* 1>2:5"), 5, -1, 0, 2);
+            // END's and another one
+            Check.edgesAre(x, Build.finished(x, "F L", "0>0:0* 0>0:0* 0>1:5"), 5, 0, 0, 2);
         });
         Check.sentence(9, "5 is NONE without a COUNTER", () -> {
             CounterPlacer x = new CounterPlacer();

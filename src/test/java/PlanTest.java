@@ -232,8 +232,15 @@ public final class PlanTest {
         });
         Check.sentence(7, "STOPPED are 0", () -> {
             CounterPlacer x = afterEighteenWays();
-            Check.blocksAre(x, 0, 7, 0, 0, 0, 0, 9);
-            Check.due("in all", Check.look(x, 0, 9), 9);
+            for (int steps = 1; steps <= 3; steps++) {
+                x.begin(0);
+                x.go(steps, 0);
+            }
+            x.begin(0);
+            x.begin(0);
+            x.go(9, 0);
+            Check.blocksAre(x, 0, 7, 1, 1, 1, 1, 9);
+            Check.due("in all", Check.look(x, 0, 9), 13);
             x.plan(0);
             Check.blocksAre(x, 0, 7, 0, 0, 0, 0, 0);
             Check.due("in all", Check.look(x, 0, 9), 0);

@@ -59,6 +59,7 @@ public final class SolveTest {
             solvedIs(x, r, 30, 0);
         });
         Check.sentence(11, "SOLVED by COUNTERS and LOG, as it is TRUE, at every STEP", SolveTest::solvedAtEveryStep);
+        Check.sentence(11, "by COUNTERS of the PLAN of then, each time it is planned anew", SolveTest::solvedByEachPlan);
         Check.sentence(11, "counts that are large", () -> {
             CounterPlacer x = new CounterPlacer();
             int r = Build.finished(x, "G G F L", "0>1:9 1>2:9 2>0:9* 2>3:1");
@@ -87,6 +88,30 @@ public final class SolveTest {
                 for (int e = 0; e < 4; e++) {
                     Check.due("solve of " + e, x.solve(called, e), Check.ofEdge(x, called, e, 6));
                 }
+            }
+        }
+    }
+
+    private static void solvedByEachPlan() {
+        Random random = new Random(7);
+        for (int i = 0; i < 20; i++) {
+            CounterPlacer x = new CounterPlacer();
+            int r = Build.finished(x, "F F G L G", "0>1:4 0>2:3 0>4:2 1>2:4 1>0:1* 2>3:7 4>1:3");
+            for (int plan = 0; plan < 5; plan++) {
+                for (int k = 0; k < 3; k++) {
+                    x.begin(r);
+                    x.go(1 + random.nextInt(12), random.nextInt());
+                    for (int e = 0; e < 7; e++) {
+                        Check.due("solve of " + e, x.solve(r, e), Check.ofEdge(x, r, e, 6));
+                    }
+                }
+                // so that no frame is left
+                x.begin(r);
+                x.go(20, 1);
+                for (int e = 0; e < 7; e++) {
+                    x.guess(r, e, random.nextInt(5));
+                }
+                Check.due("plan", x.plan(r), 7 - 3);
             }
         }
     }

@@ -37,6 +37,8 @@ public final class WaysTest {
             int r = Build.finished(x, "F F L S", "1>2:1 0>1:1 1>3:1 0>1:1 0>2:1");
             Check.edgesAre(x, r, 8, 0, 0, 1, 2, 4);
             Check.edgesAre(x, Build.finished(x, "F F L", "0>1:1 0>0:1* 1>0:1* 1>2:1 1>2:1"), 8, 0, 3, 0, 1, 2);
+            // the last block is no end
+            Check.edgesAre(x, Build.finished(x, "F L F", "0>2:1 0>1:1 2>1:1 2>1:1"), 8, 0, 2, 0, 1);
         });
         Check.sentence(9, "ADD and N of the largest ROUTINE, whichever way its BLOCKS go", () -> {
             for (boolean falling : new boolean[] {false, true}) {
@@ -133,6 +135,10 @@ public final class WaysTest {
             int r = Build.finished(x, "F F F L L", "0>4:1 0>2:1* 2>1:1 2>1:3 1>3:1 1>3:2");
             Check.blocksAre(x, r, 6, 0, 0, -2, 1, 0);
             Check.edgesAre(x, r, 9, 0, 0, -2, 0, -1, 0);
+            // block 0 is the least, though its tree comes to another one by an edge into it
+            int late = Build.finished(x, "F F L L", "0>2:9 0>1:1 1>3:1 1>2:8");
+            Check.blocksAre(x, late, 6, 0, -1, 0, -1);
+            Check.edgesAre(x, late, 9, 0, 2, 0, 0);
         });
         Check.sentence(10, "along an EDGE of this tree P is more by its ADD (gone the other way: less)", () -> {
             CounterPlacer x = new CounterPlacer();

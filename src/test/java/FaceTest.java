@@ -5,6 +5,7 @@ import java.lang.reflect.Modifier;
 import java.util.ArrayList;
 import java.util.Arrays;
 import java.util.List;
+import java.util.NoSuchElementException;
 import java.util.TreeSet;
 
 /** The document's public face, and the rules of LANGUAGE.md that the compiled classes show. */
@@ -62,6 +63,8 @@ public final class FaceTest {
             Check.due("field " + f.getName() + " is private", Modifier.isPrivate(f.getModifiers()), !isNone);
             if (isNone) {
                 Check.due("NONE", f.getModifiers(), Modifier.PUBLIC | Modifier.STATIC | Modifier.FINAL);
+                Check.due("NONE is an int", f.getType() == int.class, true);
+                Check.due("NONE", CounterPlacer.NONE, -1);
             }
         }
     }
@@ -70,7 +73,8 @@ public final class FaceTest {
         for (Method m : CounterPlacer.class.getMethods()) {
             if (m.getDeclaringClass() == CounterPlacer.class) {
                 boolean looks = List.of("look", "ofEdge", "ofBlock").contains(m.getName());
-                Check.due("exceptions of " + m.getName(), m.getExceptionTypes().length, looks ? 2 : 0);
+                List<Class<?>> due = looks ? List.of(IndexOutOfBoundsException.class, NoSuchElementException.class) : List.of();
+                Check.due("exceptions of " + m.getName(), Arrays.asList(m.getExceptionTypes()).equals(due), true);
             }
         }
     }

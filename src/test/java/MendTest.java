@@ -74,6 +74,20 @@ public final class MendTest {
         return x.mend(r);
     }
 
+    /** Of Gos one behind another, and a Leave, with the count of each edge as it is passed. */
+    private static long mendedChain(boolean lastFirst, int... counts) {
+        int n = counts.length;
+        CounterPlacer x = new CounterPlacer();
+        int r = Build.open(x, Build.many(n, "G", "L"), "");
+        for (int e = 0; e < n; e++) {
+            int b = lastFirst ? n - 1 - e : e;
+            x.edge(r, b, b + 1, 1, false);
+            x.blur(r, e, counts[b]);
+        }
+        Check.due("finish", x.finish(r), 0);
+        return x.mend(r);
+    }
+
     private static void mend() {
         Check.sentence(21, "counts that are right already", () -> {
             Check.due("of none", mended("F G L", "0>1:1 0>2:1 1>2:1"), 0);
@@ -86,6 +100,14 @@ public final class MendTest {
             Check.due("the middle of three", mended("G G G L", "0>1:1 1>2:1 2>3:1", 7, 5, 4), 3);
             Check.due("a sum", mended("F G G G L", "0>1:1 0>2:1 1>3:1 2>3:1 3>4:1", 4, 4, 4, 4, 10), 2);
             Check.due("one is cheaper than two", mended("F G G G L", "0>1:1 0>2:1 1>3:1 2>3:1 3>4:1", 4, 4, 4, 4, 0), 8);
+        });
+        Check.sentence(21, "the least, in a chain: all of it or none, whichever way its EDGES came", () -> {
+            for (boolean lastFirst : new boolean[] {false, true}) {
+                Check.due("three, a gap of five, three", mendedChain(lastFirst, 5, 5, 5, 0, 0, 0, 0, 0, 5, 5, 5), 25);
+                Check.due("two, a gap of five, two", mendedChain(lastFirst, 5, 5, 0, 0, 0, 0, 0, 5, 5), 20);
+                Check.due("19 of 0 and of 7",
+                        mendedChain(lastFirst, 7, 0, 7, 0, 7, 0, 7, 0, 7, 0, 7, 0, 7, 0, 7, 0, 7, 0, 7), 63);
+            }
         });
         Check.sentence(21, "become such, 0 and more", () -> {
             // with 5 less than 0 on edge 1, beside the chain of 0>1>2>3, it would be 5
